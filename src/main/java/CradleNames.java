@@ -999,7 +999,7 @@ public final class CradleNames {
         private void cut() {
             int count = 0;
             int from = 0;
-            while (from < length) {
+            for (int i = 0; i < TAPE && from < length; i++) {
                 if (bytes[from] == ' ' || bytes[from] == 10) {
                     from++;
                 } else {
