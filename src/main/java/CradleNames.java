@@ -223,7 +223,6 @@ public final class CradleNames {
         if (tasteCount >= TASTES || !reader.read(tastes[tasteCount])) {
             return NONE;
         }
-        press.forgetRun(tasteCount);
         tasteCount++;
         return tasteCount - 1;
     }
@@ -1871,10 +1870,6 @@ public final class CradleNames {
 
         void forgetRuns() {
             ran = 0;
-        }
-
-        void forgetRun(int taste) {
-            ran &= ~(1 << taste);
         }
 
         boolean hasRun(int taste) {

@@ -86,6 +86,29 @@ public final class ImageTest {
         due.is("back to the later one", x.back(), 4);
     }
 
+    /** How long ago each name was given is as it was. */
+    private static void gone() {
+        CradleNames x = new CradleNames();
+        x.name(Due.letters("ab"), 1);
+        x.name(Due.letters("abc"), 1);
+        x.name(Due.letters("abcd"), 1);
+        x.born(0, 0, 0, 0, 40, 1);
+        x.born(2, 0, 0, 0, 40, 2);
+        Due.taste(x, "bar long#2;worth gone;");
+        Due.taste(x, "bar long#3;worth gone;");
+        Due.taste(x, "bar long#4;worth gone;");
+        x.cradles(0, 0, 0, 1);
+        Due.year(x, 1, -1);
+        x.image();
+        Due.year(x, 0, -1);
+        Due.year(x, 1, -1);
+        x.back();
+        x.by(0, 0);
+        due.is("at -40", x.now(0, 0, 0, 100), 41);
+        due.is("at 0", x.now(0, 0, 0, 101), 1);
+        due.is("two at -40", x.now(0, 0, 0, 102), 41);
+    }
+
     private static void atTheEnd() {
         CradleNames x = told();
         x.years(20);
@@ -134,6 +157,7 @@ public final class ImageTest {
     public static void main(String[] args) {
         atZero();
         later();
+        gone();
         atTheEnd();
         tapeAndFault();
         about();

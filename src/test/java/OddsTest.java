@@ -16,11 +16,14 @@ public final class OddsTest {
         x.cradles(1, 0, 0, 1);
         x.cradles(1, 1, 1, 1);
         Due.year(x, 2, 3);
+        x.cradles(2, 0, 0, 2);
+        x.years(1);
+        due.is("place 2", x.room(2, 2, 2, false), 1000000);
         due.is("n 1", x.room(1, 0, 1, false), -1);
         due.is("n 9", x.room(1, 0, 9, false), -1);
         due.is("place 3", x.room(3, 0, 2, false), -1);
         due.is("place -1", x.room(-1, 0, 2, false), -1);
-        due.is("not gone by", x.room(1, 2, 2, false), -1);
+        due.is("not gone by", x.room(1, 3, 2, false), -1);
         due.is("year -1", x.room(1, -1, 2, false), -1);
         due.is("1 of miko, 2 of samuel, two of them", x.room(1, 1, 2, false), 333333);
         due.is("not alike", x.room(1, 1, 2, true), 333333);

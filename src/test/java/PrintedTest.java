@@ -122,6 +122,27 @@ public final class PrintedTest {
         due.is("a name from its year on", x.span(2, 1, 0, 4, true), 0);
     }
 
+    private static void namesAndImages() {
+        CradleNames x = new CradleNames();
+        x.name(Due.letters("ab"), 1);
+        Due.taste(x, "worth long;");
+        x.cradles(0, 0, 0, 1);
+        x.image();
+        due.is("one name", x.span(0, 0, 0, 0, true), 1);
+        x.name(Due.letters("abc"), 1);
+        due.is("a longer name", x.span(0, 0, 0, 0, true), 0);
+        x.back();
+        due.is("it is gone", x.span(0, 0, 0, 0, true), 1);
+        Due.taste(x, "bar long=2;");
+        due.is("a second taste", x.let(1, 0), 1);
+        x.print(0, 0, 0, 0, 1);
+        due.is("it is not let", x.let(1, 0), 0);
+        x.back();
+        Due.taste(x, "worth 5;");
+        x.print(0, 0, 0, 0, 1);
+        due.is("another second taste is", x.let(1, 0), 1);
+    }
+
     private static void parts() {
         CradleNames x = three();
         due.is("place", x.parts(0, 0), 2);
@@ -144,6 +165,13 @@ public final class PrintedTest {
         due.is("by 0", x.parts(3, 2), 0);
         x.print(0, 1, 0, 0, 99);
         due.is("none is let", x.parts(3, 0), -1);
+        CradleNames y = new CradleNames();
+        y.name(Due.letters("ab"), 1);
+        Due.taste(y, "");
+        Due.taste(y, "bar 1=1;");
+        y.cradles(0, 0, 0, 1);
+        due.is("one apart", y.parts(0, 3), 1);
+        due.is("by the first of all", y.parts(0, 0), 0);
     }
 
     public static void main(String[] args) {
@@ -151,6 +179,7 @@ public final class PrintedTest {
         let();
         span();
         changes();
+        namesAndImages();
         parts();
         due.end();
     }

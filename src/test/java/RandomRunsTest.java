@@ -10,12 +10,20 @@ public final class RandomRunsTest {
     private static final String[] SIGNS = {"<", "<=", ">", ">=", "=", "#"};
     private static final String[] STRAYS = {"near", "worth", "bar", "past", ";", "(", ")", "-", "not", ",", "min",
         "10000", "0", "21", "61", "%", "Near", "nears", "or", "and", "<", "=", "#", "max(", "99999999999", "\u00e9"};
+    // Under these names come and go, so that films, sounds and standings bring something.
+    private static final String[] LIVELY = {"worth sound*2-near*3+film;", "worth 9-near+sound;bar near>4;near 3;",
+        "worth up*3-same+film/3;near 4;", "worth gone-near*9+film*2;", "worth boys-girls*2;bar gone<1;",
+        "worth rise*4+sound-same;bar near>=6;", "worth 0-all+film;near 2;bar far>3 and near>0;",
+        "worth girls-boys+gone/3-near*2;", "worth old*5-all+sound*3;past 8;", "worth year*long/7-same*2;near 6;"};
+    private static final String[] KNOWN = {"anna", "ena", "lina", "otto", "bruno", "enno", "kim", "tim", "mia", "lea",
+        "leo", "theo", "ina", "udo", "ada", "jim"};
     private static int wrong = 0;
 
     private final Random random;
     private final long seed;
     private final CradleNames real = new CradleNames();
     private final PlainCradles plain = new PlainCradles();
+    private final boolean lively;
     private int calls;
     // Runs over every year are dear in the plain model, so each run of calls has a purse for them.
     private int purse = 12;
@@ -23,6 +31,7 @@ public final class RandomRunsTest {
     private RandomRunsTest(long seed) {
         this.seed = seed;
         random = new Random(seed);
+        lively = random.nextInt(4) != 0;
     }
 
     private void due(String call, long got, long want) {
@@ -118,6 +127,9 @@ public final class RandomRunsTest {
 
     private String tasteText() {
         StringBuilder b = new StringBuilder();
+        if (random.nextInt(lively ? 6 : 3) != 0 == lively) {
+            return LIVELY[random.nextInt(LIVELY.length)];
+        }
         if (random.nextInt(4) == 0) {
             b.append("near ").append(1 + random.nextInt(random.nextInt(9) == 0 ? 22 : 20)).append(';');
         }
@@ -174,6 +186,9 @@ public final class RandomRunsTest {
         long v = 0;
         int length = some(2, random.nextBoolean() ? 3 : 10);
         String few = random.nextBoolean() ? "aeibdm" : "abcdefghijklmnopqrstuvwxyz";
+        if (lively && random.nextInt(6) != 0) {
+            return Due.letters(KNOWN[random.nextInt(KNOWN.length)]);
+        }
         for (int i = 0; i < Math.max(0, Math.min(length, 12)); i++) {
             v = v << 5 | (few.charAt(random.nextInt(few.length())) - 'a' + 1);
         }
@@ -343,15 +358,34 @@ public final class RandomRunsTest {
     }
 
     private void imageOrBack() {
-        if (random.nextInt(3) != 0) {
+        if (random.nextInt(5) < 2) {
             due("image()", real.image(), plain.image());
         } else {
             due("back()", real.back(), plain.back());
         }
     }
 
+    private void tellLively() {
+        for (int i = 0; i < 12; i++) {
+            int n = random.nextInt(3) * random.nextInt(3);
+            due("cradles", bit(real.cradles(i / 4, i / 2 % 2, i % 2, n)), bit(plain.cradles(i / 4, i / 2 % 2, i % 2, n)));
+        }
+        for (int standing = 0; standing < 2; standing++) {
+            int taste = plain.s.tastes.isEmpty() ? -1 : random.nextInt(plain.s.tastes.size());
+            due("by", bit(real.by(standing, taste)), bit(plain.by(standing, taste)));
+        }
+        for (int i = random.nextInt(4); i > 0; i--) {
+            int name = aName();
+            int year = random.nextInt(20);
+            int points = 1 + random.nextInt(60);
+            due("film", real.film(name, year, points), plain.film(name, year, points));
+        }
+        due("image()", real.image(), plain.image());
+        years();
+    }
+
     private void run() {
-        int names = random.nextInt(8) == 0 ? 18 : 1 + random.nextInt(7);
+        int names = random.nextInt(8) == 0 ? 18 : 1 + random.nextInt(lively ? 12 : 7);
         for (int i = 0; i < names; i++) {
             name();
         }
@@ -364,26 +398,30 @@ public final class RandomRunsTest {
         for (int i = random.nextInt(10) + 4; i > 0; i--) {
             tell();
         }
+        if (lively) {
+            tellLively();
+        }
         while (calls < 420) {
-            switch (random.nextInt(16)) {
+            switch (random.nextInt(48)) {
                 case 0: name(); break;
-                case 1: born(); break;
-                case 2: tellTaste(); break;
-                case 3: case 4: tell(); break;
-                case 5: case 6: years(); break;
-                case 7: askRows(); break;
-                case 8: case 9: askNow(); break;
-                case 10: askNames(); break;
-                case 11: case 12: askYears(); break;
-                case 13: askBrought(); break;
-                case 14: askPrinted(); break;
-                default: imageOrBack();
+                case 1: case 2: born(); break;
+                case 3: case 4: tellTaste(); break;
+                case 5: case 6: case 7: tell(); break;
+                case 8: case 9: case 10: case 11: case 12: years(); break;
+                case 13: case 14: case 15: case 16: askRows(); break;
+                case 17: case 18: case 19: case 20: askNow(); break;
+                case 21: case 22: case 23: case 24: case 25: case 26: askNames(); break;
+                case 27: case 28: case 29: case 30: case 31: case 32: askYears(); break;
+                case 33: case 34: case 35: case 36: case 37: askBrought(); break;
+                case 38: case 39: case 40: case 41: case 42: askPrinted(); break;
+                case 43: case 44: imageOrBack(); break;
+                default: askRows();
             }
         }
     }
 
     public static void main(String[] args) {
-        int runs = args.length > 0 ? Integer.parseInt(args[0]) : 60;
+        int runs = args.length > 0 ? Integer.parseInt(args[0]) : 40;
         long first = args.length > 1 ? Long.parseLong(args[1]) : 1;
         for (long seed = first; seed < first + runs && wrong == 0; seed++) {
             new RandomRunsTest(seed).run();

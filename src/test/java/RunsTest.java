@@ -65,6 +65,8 @@ public final class RunsTest {
         due.is("the later name got none in 0", x.took(0, 2, 0), 0);
         due.is("in 1 it kept them from 1", x.took(0, 1, 1), 0);
         due.is("0 got all", x.given(1, 0, 0, 0, 0), 4);
+        due.is("and would without", x.took(0, 0, 1), 0);
+        due.is("in 2 none holds, nor for the later name", x.took(0, 2, 2), 0);
         due.is("in 2 none holds", x.took(0, 1, 2), 0);
         CradleNames y = new CradleNames();
         y.name(Due.letters("ab"), 1);
@@ -78,6 +80,42 @@ public final class RunsTest {
         due.is("a name told at 2 in the run of 1", y.took(0, 1, 1), 0);
         due.is("in that of 2", y.took(0, 1, 2), 0);
         due.is("it was given", y.given(2, -1, -1, -1, 1), 1);
+    }
+
+    /** Each run begins anew from what was told, with sound if it is one without a film. */
+    private static void anew() {
+        CradleNames x = new CradleNames();
+        x.name(Due.letters("bob"), 1);
+        x.name(Due.letters("ida"), 1);
+        x.name(Due.letters("eva"), 1);
+        x.born(0, 1, 0, 0, 1, 1);
+        x.born(1, 1, 0, 0, 2, 1);
+        x.born(2, 1, 0, 0, 40, 1);
+        Due.taste(x, "worth gone*100+sound+near*0+film;");
+        x.by(0, 0);
+        x.cradles(0, 0, 0, 2);
+        x.film(0, 0, 1);
+        x.years(5);
+        for (int i = 0; i < 3; i++) {
+            for (int name = 0; name < 3; name++) {
+                for (int y = 4; y >= 0; y--) {
+                    due.is("a film too small in " + y, x.took(0, name, y), 0);
+                }
+            }
+        }
+        CradleNames z = new CradleNames();
+        z.name(Due.letters("bob"), 1);
+        z.name(Due.letters("ida"), 1);
+        z.name(Due.letters("eva"), 1);
+        z.born(1, 1, 0, 0, 1, 5);
+        Due.taste(z, "worth sound*long;");
+        z.by(0, 0);
+        z.cradles(0, 0, 0, 1);
+        z.film(0, 0, 999);
+        z.years(2);
+        due.is("sound stays in a run without a film", z.took(0, 2, 0), 0);
+        due.is("without sound all are like", z.sound(0, 0), -1);
+        due.is("and the lowest is given", z.sound(1, 0), 0);
     }
 
     private static void sound() {
@@ -106,6 +144,7 @@ public final class RunsTest {
         took();
         tookLater();
         asTheyWere();
+        anew();
         sound();
         due.end();
     }

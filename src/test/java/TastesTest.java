@@ -103,6 +103,22 @@ public final class TastesTest {
         fault("Worth 1;", 1, 0);
         fault("worth Near;", 1, 6);
         fault("worth nearfar;", 1, 6);
+        fault("worth nearz;", 1, 6);
+        fault("worth nearZ;", 1, 6);
+        fault("worth nearA;", 1, 6);
+        fault("worth neara;", 1, 6);
+        fault("worth near@;", 1, 10);
+        fault("worth near[;", 1, 10);
+        fault("worth near{;", 1, 10);
+        fault("worth near`;", 1, 10);
+        fault("worth near/;", 1, 11);
+        fault("worth near:;", 1, 10);
+        fault(";".repeat(300), 1, 0);
+        fault("1;".repeat(150), 1, 0);
+        fault("z".repeat(300), 1, 0);
+        fault("9".repeat(300), 1, 0);
+        fault(" ".repeat(300), 0, -1);
+        fault("<".repeat(300), 1, 0);
         fault("worth near far;", 1, 11);
         fault("worth near5;", 1, 10);
         fault("worth 5near;", 1, 7);
@@ -336,6 +352,11 @@ public final class TastesTest {
             bar("bar 2" + signs[i] + "2;", 1 - same[i]);
             bar("bar 3" + signs[i] + "2;", 1 - more[i]);
             bar("bar not 3" + signs[i] + "2;", more[i]);
+            bar("bar not 2" + signs[i] + "2;", same[i]);
+            bar("bar not 1" + signs[i] + "2;", less[i]);
+            bar("bar 1" + signs[i] + "2 and 1#2;", 1 - less[i]);
+            bar("bar 2" + signs[i] + "2 and 1#2;", 1 - same[i]);
+            bar("bar 3" + signs[i] + "2 and 1#2;", 1 - more[i]);
         }
         bar("bar 1=1 or 1=1 and 1=2;", 0);
         bar("bar 1=2 and 1=1 or 1=1;", 0);

@@ -42,6 +42,13 @@ public final class TrailsTest {
         Due.year(x, -1, 3);
         due.is("more of both, with a fourth", x.shapes(0), 2);
         due.is("more of one, with a fourth", x.shapes(1), 1);
+        CradleNames y = pickers();
+        y.cradles(0, 0, 0, 2);
+        Due.year(y, 0, -1);
+        y.cradles(0, 0, 0, 3);
+        Due.year(y, 0, -1);
+        due.is("the rise has year 0", y.shape(0, 2), 1);
+        due.is("the peak was the year gone by last", y.shape(0, 3), 0);
         due.is("shapes(2)", x.shapes(2), -1);
         due.is("shapes(-1)", x.shapes(-1), -1);
         due.is("shapes of none", new CradleNames().shapes(0), 0);
@@ -98,6 +105,10 @@ public final class TrailsTest {
         x.years(1);
         // 333 and 666 above, 666 and 333 below
         due.is("thousandths are cut", x.lag(10), 666);
+        CradleNames y = pickers();
+        y.cradles(0, 1, 0, 1);
+        Due.year(y, -1, 0);
+        due.is("none above", y.lag(10), 1000);
     }
 
     private static void together() {
@@ -156,6 +167,14 @@ public final class TrailsTest {
         y.born(0, 0, 0, 0, 39, 9);
         sexes(y, 1, 0);
         due.is("boys' at -40", y.crossed(0, 0), 0);
+        due.is("not back in the year itself", y.crossed(0, 1), 0);
+        sexes(y, 2, 2);
+        due.is("as often is not back", y.crossed(0, 1), 0);
+        CradleNames z = pickers();
+        sexes(z, 0, 1);
+        sexes(z, 1, 0);
+        sexes(z, 0, 1);
+        due.is("back in the next year", z.crossed(0, 1), 1);
     }
 
     private static void returned() {
@@ -184,6 +203,15 @@ public final class TrailsTest {
         due.is("never ahead", x.returned(2, 3, 0), -1);
         due.is("two without", x.returned(2, 2, 1), 2);
         due.is("never given", x.returned(3, 1, 0), -1);
+        CradleNames y = pickers();
+        y.life(20);
+        y.born(0, 0, 0, 0, 20, 3);
+        y.born(0, 0, 0, 0, 19, 4);
+        y.born(0, 0, 0, 0, 18, 5);
+        y.years(1);
+        y.cradles(0, 0, 0, 1);
+        Due.year(y, 0, -1);
+        due.is("living at 0, not at 1 or -1", y.returned(0, 3, 2), 9);
         due.is("gap 0", x.returned(0, 0, 0), -1);
         due.is("gap 61", x.returned(0, 61, 0), -1);
         due.is("what 3", x.returned(0, 1, 3), -1);
@@ -211,6 +239,9 @@ public final class TrailsTest {
         due.is("of like ones the earliest", x.age(1, 50, 0), -20);
         due.is("the whole life, first", x.age(1, 51, 0), -20);
         due.is("the whole life, last", x.age(1, 51, 1), -1);
+        x.born(3, 0, 0, 0, 2, 1);
+        x.born(3, 0, 0, 0, 1, 3);
+        due.is("half in the last year", x.age(3, 50, 2), -1);
         due.is("none living", x.age(2, 50, 0), -1000);
         due.is("p 0", x.age(0, 0, 0), -1000);
         due.is("p 101", x.age(0, 101, 0), -1000);

@@ -64,6 +64,20 @@ public final class YearsTest {
         x.cradles(0, 0, 1, 5);
         x.years(1);
         due.is("of like ones the lowest", x.given(0, 0, 0, 1, 0), 5);
+        x = two("worth -rise;");
+        x.cradles(0, 0, 0, 3);
+        x.years(1);
+        due.is("this year is no rise", x.given(0, 0, 0, 0, 0), 3);
+        x = new CradleNames();
+        x.name(Due.letters("ida"), 1);
+        x.name(Due.letters("eva"), 1);
+        Due.taste(x, "worth sound;");
+        x.by(0, 0);
+        x.cradles(0, 0, 0, 3);
+        x.years(1);
+        due.is("this year has no sound", x.given(0, 0, 0, 0, 0), 3);
+        x.years(1);
+        due.is("the year ahead has", x.given(1, 0, 0, 0, 1), 3);
     }
 
     private static void barsWithinYear() {
