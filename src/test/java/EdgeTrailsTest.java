@@ -122,6 +122,10 @@ public final class EdgeTrailsTest {
         due.is("not apart by 20", y.lag(1), 0);
         due.is("by 0: 2000 / 21", y.lag(10), 95);
         due.is("by 19: 2000 / 2", y.lag(29), 1000);
+        y.years(20);
+        due.is("21 is none, though the years are there", y.lag(31), -1);
+        due.is("nor is -1", y.lag(9), -1);
+        due.is("20 is: 20000 / 21", y.lag(30), 952);
     }
 
     /** "thousandths .. (of all GIVEN there and then, cut; 0 without)", "of like ones the lowest" */

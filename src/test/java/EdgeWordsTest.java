@@ -262,6 +262,38 @@ public final class EdgeWordsTest {
         due.is("without vowels nothing sounds like it", worth(bare, 0, 0, "worth sound;"), 0);
     }
 
+    /** "sound: GIVEN in y - 1": those of the year itself are not heard, in no place */
+    private static void soundOfTheYear() {
+        CradleNames x = new CradleNames();
+        x.name(Due.letters("ida"), 3);
+        x.name(Due.letters("eva"), 3);
+        Due.taste(x, "worth sound;");
+        x.by(0, 0);
+        x.cradles(0, 0, 0, 1);
+        x.cradles(2, 0, 0, 1);
+        x.years(1);
+        due.is("in the first place", x.given(0, 0, 0, 0, 0), 1);
+        due.is("in the last place", x.given(0, 2, 0, 0, 0), 1);
+        x.years(1);
+        due.is("in the year behind", x.given(1, -1, -1, -1, 1), 2);
+    }
+
+    /** "without sound (that is 0)" */
+    private static void runsWithoutSound() {
+        CradleNames x = new CradleNames();
+        x.name(Due.letters("ida"), 3);
+        x.name(Due.letters("evora"), 3);
+        Due.taste(x, "worth sound*long;");
+        x.by(0, 0);
+        x.cradles(0, 0, 0, 1);
+        x.years(1);
+        due.is("no sound in 0", x.sound(0, 0), 0);
+        x.years(1);
+        due.is("given by sound in 1", x.given(1, -1, -1, -1, 1), 1);
+        due.is("without it the lowest", x.sound(0, 1), -1);
+        due.is("what it brought", x.sound(1, 1), 1);
+    }
+
     /** "long: its letters; year: y" */
     private static void longAndYear() {
         CradleNames x = new CradleNames();
@@ -415,6 +447,8 @@ public final class EdgeWordsTest {
         living();
         gone();
         riseAndSound();
+        soundOfTheYear();
+        runsWithoutSound();
         longAndYear();
         may();
         greatest();
