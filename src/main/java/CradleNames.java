@@ -104,8 +104,8 @@ public final class CradleNames {
         for (int i = 0; i < TASTES; i++) {
             tastes[i] = new Taste();
         }
-        reader = new Reader();
-        judge = new Judge(names, land);
+        reader = new Reader(tastes[0]);
+        judge = new Judge(names, land, book, tastes[0]);
         course = new Course(names, land, tastes, judge);
         trails = new Trails(names, land, book);
         odds = new Odds();
@@ -966,6 +966,10 @@ public final class CradleNames {
         private Taste made;
         private int toldOnce;
 
+        Reader(Taste first) {
+            made = first;
+        }
+
         boolean hasRoom() {
             return length + FED <= TAPE;
         }
@@ -1255,9 +1259,11 @@ public final class CradleNames {
         private int sex;
         private int listed;
 
-        Judge(Names names, Land land) {
+        Judge(Names names, Land land, Book book, Taste taste) {
             this.names = names;
             this.land = land;
+            this.book = book;
+            this.taste = taste;
         }
 
         void stand(Book book, int year, int place, int standing, int sex) {
@@ -1483,14 +1489,13 @@ public final class CradleNames {
         /** How many years ahead of the peak (step -1) or behind it (step 1) have half of it or more. */
         int slope(int name, int peak, int step) {
             int most = in(name, peak);
-            int many = 0;
-            for (int y = peak + step; y >= 0 && y < land.clock; y += step) {
-                if (2 * in(name, y) < most) {
+            for (int many = 0; many < YEARS_GOING; many++) {
+                int next = peak + (many + 1) * step;
+                if (!land.wentBy(next) || 2 * in(name, next) < most) {
                     return many;
                 }
-                many++;
             }
-            return many;
+            return YEARS_GOING;
         }
 
         /** Pairs in which one name has more of both slopes, or (both false) more of one, less of the other. */
